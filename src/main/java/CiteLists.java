@@ -349,7 +349,7 @@ public final class CiteLists {
         }
 
         boolean sameAs(Text other) {
-            return comparedTo(other) == 0;
+            return length == other.length && comparedTo(other) == 0;
         }
     }
 
@@ -674,8 +674,8 @@ public final class CiteLists {
         }
 
         boolean isMistakenFor(Row other) {
-            return persons.size() > 0 && other.persons.size() > 0 && family.sameAs(other.family)
-                && !initialsOfFirst.sameAs(other.initialsOfFirst);
+            return persons.size() > 0 && other.persons.size() > 0
+                && !initialsOfFirst.sameAs(other.initialsOfFirst) && family.sameAs(other.family);
         }
 
         void setBase(int label, boolean mistaken) {
@@ -855,20 +855,25 @@ public final class CiteLists {
 
         void setSuffixes() {
             for (int i = 0; i < count; i++) {
-                Row row = rows.get(i);
-                boolean alone = row.base.isEmpty() || countAlike(row, count) == 1;
-                row.suffix = alone ? 0 : countAlike(row, i) + 1;
+                rows.get(i).suffix = 0;
+            }
+            for (int i = 0; i < count; i++) {
+                if (rows.get(i).suffix == 0 && !rows.get(i).base.isEmpty()) {
+                    markAlike(i);
+                }
             }
         }
 
-        private int countAlike(Row row, int end) {
-            int alike = 0;
-            for (int i = 0; i < end; i++) {
+        private void markAlike(int first) {
+            Row row = rows.get(first);
+            int marked = 1;
+            for (int i = first + 1; i < count; i++) {
                 if (rows.get(i).base.sameAs(row.base)) {
-                    alike++;
+                    row.suffix = 1;
+                    marked++;
+                    rows.get(i).suffix = marked;
                 }
             }
-            return alike;
         }
 
         void findMissing() {

@@ -235,7 +235,9 @@ public final class EntriesTest {
         CHECK.same("255 is small", persons("A " + (char) 255 + " B"), (char) 255 + " B, A.");
         CHECK.same("222 is not small", persons("A " + (char) 222 + "a B"), "B, A. " + (char) 222 + ".");
         CHECK.same("a digit is not small", persons("A 1a B"), "B, A. 1.");
-        CHECK.same("a and z are small", persons("B a z C"), "a z C, B.");
+        CHECK.same("a is small", persons("B a C"), "a C, B.");
+        CHECK.same("z is small", persons("B z C"), "z C, B.");
+        CHECK.same("40 words", persons("X ".repeat(40)), "X," + " X.".repeat(39));
     }
 
     private static void personsWithComma() {
@@ -247,12 +249,14 @@ public final class EntriesTest {
         CHECK.same("nothing behind it", persons("Berg Tal,"), "Berg Tal");
         CHECK.same("nothing before it", persons(", Jan"), ", J.");
         CHECK.same("only commas", persons(",, ,"), "");
+        CHECK.same("40 words", persons("X,".repeat(40)), "X," + " X.".repeat(39));
     }
 
     private static void personsParted() {
         CHECK.same("two", persons("A B and C D"), "B, A. and D, C.");
         CHECK.same("three", persons("A and B and C"), "A, B and C");
         CHECK.same("four", persons("X A and B and C and D"), "A, X. et al.");
+        CHECK.same("as many as 80 characters hold", persons("A" + " and B".repeat(13)), "A et al.");
         CHECK.same("those without words", persons("and A and  and , and B and"), "A and B");
         CHECK.same("only a word that is just and", persons("Anders andand And"), "andand And, A.");
         CHECK.same("and with a comma", persons("A, and, B"), "A, a. B.");

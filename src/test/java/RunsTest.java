@@ -10,6 +10,7 @@ public final class RunsTest {
         realOnes();
         orderByPersons();
         orderOfPersonsParts();
+        personsEndBeforeTheYear();
         orderByYearAndTitle();
         alikeRows();
         folding();
@@ -87,7 +88,17 @@ public final class RunsTest {
         CHECK.same("8: whole given words", Lists.rows(sorted(1, "X, Anna", "X, Abel", "X, A")), "2 1 0");
         CHECK.same("8: a person before the next one's family",
             Lists.rows(sorted(1, "X, B and A", "X, A and Z", "c X, A and A")), "1 2 0");
+        CHECK.same("8: given and particle apart", Lists.rows(sorted(1, "X, Ab", "b X, A")), "1 0");
         CHECK.same("8: no family first", Lists.rows(sorted(1, "A, Z", ", Z", ", B")), "2 1 0");
+    }
+
+    private static void personsEndBeforeTheYear() {
+        CiteLists x = new CiteLists();
+        Lists.cited(x, 4, "A and , B", "", "a");
+        Lists.cited(x, 4, "A and B", "", "");
+        Lists.cited(x, 4, "A", "", "z");
+        x.style(1, 0);
+        CHECK.same("8: who has fewer first, whatever the year", Lists.rows(x), "2 0 1");
     }
 
     private static void orderByYearAndTitle() {

@@ -10,6 +10,7 @@ public final class TextsTest {
         shortBases();
         longBases();
         initialsInLabels();
+        initialsInTheNextRun();
         initialsNotInLabels();
         persons();
         piecesByKind();
@@ -49,6 +50,7 @@ public final class TextsTest {
         CHECK.same("13: with its blanks", base(1, "k", "A van B Cd", ""), "B C");
         CHECK.same("13: no family", base(1, "k", ", Jan", "19"), "19");
         CHECK.same("13: without particles", base(1, "k", "van der Berg, J", "1999a"), "Ber9a");
+        CHECK.same("13: the last one before a comma", base(1, "k", "van der, J", ""), "der");
         CHECK.same("13: two", base(1, "k", "van Ab and Cd", "1984"), "AC84");
         CHECK.same("13: four", base(1, "k", "A and B and c and D", "1984"), "ABcD84");
         CHECK.same("13: five", base(1, "k", "A and B and C and D and E", "1984"), "ABCD+84");
@@ -93,6 +95,26 @@ public final class TextsTest {
         CHECK.same("13: both without family", labels(2, ", A", ", B"), "A. |B. ");
         CHECK.same("13: letters by bases with initials",
             labels(2, "X, A", "X, B", "X, A"), "A. Xa|B. X|A. Xb");
+    }
+
+    private static void initialsInTheNextRun() {
+        CiteLists x = new CiteLists();
+        Lists.cited(x, 4, "X, A", "", "");
+        Lists.cited(x, 4, "Y, B", "", "");
+        Lists.cited(x, 4, "", "", "");
+        x.style(0, 2);
+        x.run();
+        CHECK.same("13: no other X", Lists.label(x, 0), "X");
+        Lists.cited(x, 4, "X, C", "", "");
+        x.run();
+        CHECK.same("13: another X", Lists.label(x, 0), "A. X");
+        Lists.field(x, 2, Lists.AUTHOR, "Y, D");
+        x.run();
+        CHECK.same("13: another Y", Lists.label(x, 1), "B. Y");
+        Lists.key(x, 0, "k");
+        Lists.key(x, 3, "k");
+        x.run();
+        CHECK.same("13: no other X again", Lists.label(x, 0), "X");
     }
 
     private static void initialsNotInLabels() {
