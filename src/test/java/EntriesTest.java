@@ -109,8 +109,8 @@ public final class EntriesTest {
             CHECK.thrown("4: 81st character", UnsupportedOperationException.class, () -> x.field(0, n, 'a'));
         }
         x.run();
-        CHECK.same("4: 80 characters each", Lists.printed(x, 0),
-            "[1] " + most + ". " + most + ". " + most + ". " + most + ".");
+        CHECK.same("4: 80 characters each", x.print(0), 4 + 4 * 80 + 3 * 2 + 1);
+        CHECK.same("4: the persons' and the title's", Lists.told(x, 166), "[1] " + most + ". " + most);
         CHECK.thrown("4: field 8", IndexOutOfBoundsException.class, () -> x.field(0, 8, 'a'));
         CHECK.thrown("4: field -1", IndexOutOfBoundsException.class, () -> x.field(0, -1, 'a'));
         CHECK.thrown("4: no entry", NoSuchElementException.class, () -> x.field(1, 0, 'a'));

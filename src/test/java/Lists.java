@@ -1,3 +1,5 @@
+import java.util.function.IntSupplier;
+
 /** Ways to feed a CiteLists with texts, and to read texts out of it. */
 final class Lists {
     static final int AUTHOR = 0;
@@ -30,6 +32,27 @@ final class Lists {
     static void field(CiteLists x, int entry, int name, String text) {
         for (int i = 0; i < text.length(); i += 4) {
             x.field(entry, name, packed(text.substring(i, Math.min(i + 4, text.length()))));
+        }
+    }
+
+    /** As a call that answers: 0 when the characters are taken. */
+    static int givenKey(CiteLists x, int entry, int c) {
+        x.key(entry, c);
+        return 0;
+    }
+
+    /** As a call that answers: 0 when the characters are taken. */
+    static int givenField(CiteLists x, int entry, int name, int c) {
+        x.field(entry, name, c);
+        return 0;
+    }
+
+    /** What a call answers, or the name of what it throws behind "throws.". */
+    static String answer(IntSupplier call) {
+        try {
+            return String.valueOf(call.getAsInt());
+        } catch (RuntimeException e) {
+            return "throws." + e.getClass().getSimpleName();
         }
     }
 

@@ -40,15 +40,7 @@ public final class ModelTest {
     private void both(String what, IntSupplier mine, IntSupplier due) {
         if (calls < CALLS) {
             calls++;
-            CHECK.same(what, answer(mine), answer(due));
-        }
-    }
-
-    private static String answer(IntSupplier call) {
-        try {
-            return String.valueOf(call.getAsInt());
-        } catch (RuntimeException e) {
-            return "throws." + e.getClass().getSimpleName();
+            CHECK.same(what, Lists.answer(mine), Lists.answer(due));
         }
     }
 
@@ -92,17 +84,13 @@ public final class ModelTest {
     }
 
     private void give(String run, int entry, int name, int c) {
-        both(run + "field " + entry + " " + name + " " + c, () -> {
-            x.field(entry, name, c);
-            return 0;
-        }, () -> model.field(entry, name, c));
+        both(run + "field " + entry + " " + name + " " + c,
+            () -> Lists.givenField(x, entry, name, c), () -> model.field(entry, name, c));
     }
 
     private void giveKey(String run, int entry, int c) {
-        both(run + "key " + entry + " " + c, () -> {
-            x.key(entry, c);
-            return 0;
-        }, () -> model.key(entry, c));
+        both(run + "key " + entry + " " + c,
+            () -> Lists.givenKey(x, entry, c), () -> model.key(entry, c));
     }
 
     private void feedKey(String run, int entry, String text) {
