@@ -345,6 +345,11 @@ public final class BoundsTest {
             outOfBounds("11: character " + i, () -> x.initials(0, 0, i));
         }
         outOfBounds("11: another entry", () -> x.initials(1, 0, -1));
+        x.cross(1, 0);
+        CHECK.same("11: of the value", Lists.initials(x, 1, 0), "A. B.");
+        x.run();
+        Lists.field(x, 0, Lists.AUTHOR, " V");
+        CHECK.same("11: as it is now", Lists.initials(x, 1, 2), "C. Z.");
     }
 
     /** "how many (i = -1, any what; 0 before any); of the i-th one the entry (what = 0), or field (1)". */

@@ -26,8 +26,15 @@ final class Check {
             call.run();
             return "nothing thrown";
         } catch (RuntimeException e) {
-            return e.getClass().getSimpleName();
+            return nameOf(e);
         }
+    }
+
+    /** An exception counts only where a throw of the class threw it, not the machine or its library. */
+    static String nameOf(RuntimeException e) {
+        StackTraceElement[] trace = e.getStackTrace();
+        boolean own = trace.length > 0 && trace[0].getClassName().startsWith("CiteLists");
+        return own ? e.getClass().getSimpleName() : e.getClass().getSimpleName() + " of the machine";
     }
 
     void end() {

@@ -14,6 +14,8 @@ public final class LabelsTest {
         longBase();
         longYear();
         initialsBefore();
+        initialsInTheNextRun();
+        initialsNotInLabels();
         letters();
         lettersOfManyBases();
         label();
@@ -129,37 +131,57 @@ public final class LabelsTest {
         CHECK.same("behind et al.", base(2, "k", "A and B and C", "1"), "A et al. 1");
     }
 
-    private static String labels(String... authors) {
-        CiteLists x = new CiteLists();
-        for (String author : authors) {
-            Lists.cited(x, 4, author, "", "");
-        }
-        x.style(0, 2);
-        int count = x.run();
-        StringBuilder text = new StringBuilder();
-        for (int i = 0; i < count; i++) {
-            text.append(i == 0 ? "" : "|").append(Lists.label(x, i));
-        }
-        return text.toString();
-    }
-
     /** "before the first one's name its initials and a blank, if it has a given word, and the first person of another row ..". */
     private static void initialsBefore() {
-        CHECK.same("one row alone", labels("X, A"), "X");
-        CHECK.same("another family", labels("X, A", "Y, B"), "X|Y");
-        CHECK.same("the family's beginning", labels("X, A", "Xy, B"), "X|Xy");
-        CHECK.same("the same initials", labels("X, Ann", "X, Abe"), "Xa|Xb");
-        CHECK.same("other initials", labels("X, A", "X, B"), "A. X|B. X");
-        CHECK.same("the beginning of the other's", labels("X, A", "X, A B"), "A. X|A. B. X");
-        CHECK.same("no given word here", labels("X", "X, B"), "X|B. X");
-        CHECK.same("no given word in either", labels("X", "X"), "Xa|Xb");
-        CHECK.same("the row before", labels("Y", "X, A", "X, B"), "Y|A. X|B. X");
-        CHECK.same("far apart", labels("X, A", "Y", "Z", "X, B"), "A. X|Y|Z|B. X");
-        CHECK.same("one of two others", labels("X, A", "X, A", "X, B"), "A. Xa|A. Xb|B. X");
-        CHECK.same("the second person does not count", labels("X, A", "Y and X, B"), "X|Y and X");
-        CHECK.same("the second person gets none", labels("Y and X, A", "Y and X, B"), "Y and Xa|Y and Xb");
-        CHECK.same("before the particle", labels("van X, A", "X, B"), "A. van X|B. X");
-        CHECK.same("with et al.", labels("X, A and Y and Z", "X, B"), "A. X et al.|B. X");
+        CHECK.same("one row alone", Lists.labelsOf(2, "X, A"), "X");
+        CHECK.same("another family", Lists.labelsOf(2, "X, A", "Y, B"), "X|Y");
+        CHECK.same("the family's beginning", Lists.labelsOf(2, "X, A", "Xy, B"), "X|Xy");
+        CHECK.same("the same initials", Lists.labelsOf(2, "X, Ann", "X, Abe"), "Xa|Xb");
+        CHECK.same("other initials", Lists.labelsOf(2, "X, A", "X, B"), "A. X|B. X");
+        CHECK.same("the beginning of the other's", Lists.labelsOf(2, "X, A", "X, A B"), "A. X|A. B. X");
+        CHECK.same("no given word here", Lists.labelsOf(2, "X", "X, B"), "X|B. X");
+        CHECK.same("no given word in either", Lists.labelsOf(2, "X", "X"), "Xa|Xb");
+        CHECK.same("the row before", Lists.labelsOf(2, "Y", "X, A", "X, B"), "Y|A. X|B. X");
+        CHECK.same("far apart", Lists.labelsOf(2, "X, A", "Y", "Z", "X, B"), "A. X|Y|Z|B. X");
+        CHECK.same("one of two others", Lists.labelsOf(2, "X, A", "X, A", "X, B"), "A. Xa|A. Xb|B. X");
+        CHECK.same("the second person does not count", Lists.labelsOf(2, "X, A", "Y and X, B"), "X|Y and X");
+        CHECK.same("the second person gets none", Lists.labelsOf(2, "Y and X, A", "Y and X, B"), "Y and Xa|Y and Xb");
+        CHECK.same("before the particle", Lists.labelsOf(2, "van X, A", "X, B"), "A. van X|B. X");
+        CHECK.same("initials are not folded", Lists.labelsOf(2, "X, A", "X, a"), "A. X|a. X");
+        CHECK.same("both without a family", Lists.labelsOf(2, ", A", ", B"), "A. |B. ");
+        CHECK.same("with et al.", Lists.labelsOf(2, "X, A and Y and Z", "X, B"), "A. X et al.|B. X");
+    }
+
+    private static void initialsInTheNextRun() {
+        CiteLists x = new CiteLists();
+        Lists.cited(x, 4, "X, A", "", "");
+        Lists.cited(x, 4, "Y, B", "", "");
+        Lists.cited(x, 4, "", "", "");
+        x.style(0, 2);
+        x.run();
+        CHECK.same("no other X", Lists.label(x, 0), "X");
+        Lists.cited(x, 4, "X, C", "", "");
+        x.run();
+        CHECK.same("another X", Lists.label(x, 0), "A. X");
+        Lists.field(x, 2, Lists.AUTHOR, "Y, D");
+        x.run();
+        CHECK.same("another Y", Lists.label(x, 1), "B. Y");
+        Lists.key(x, 0, "k");
+        Lists.key(x, 3, "k");
+        x.run();
+        CHECK.same("no other X again", Lists.label(x, 0), "X");
+    }
+
+    private static void initialsNotInLabels() {
+        CHECK.same("not by label 1", Lists.labelsOf(1, "A X", "B X"), "Xa|Xb");
+        CHECK.same("no persons there", Lists.labelsOf(2, ", A", ""), "|");
+        CiteLists x = new CiteLists();
+        Lists.cited(x, 4, "A X", "", "");
+        int other = x.entry(4);
+        Lists.field(x, other, Lists.AUTHOR, "B X");
+        x.style(0, 2);
+        x.run();
+        CHECK.same("only rows count", Lists.label(x, 0), "X");
     }
 
     /** "rows that have the same base (not empty) get 1, 2, .. in their order; others 0". */
@@ -220,59 +242,51 @@ public final class LabelsTest {
         }
     }
 
-    private static String text(int kind, String... values) {
-        CiteLists x = new CiteLists();
-        x.cite(x.entry(kind));
-        for (int name = 0; name < values.length; name++) {
-            Lists.field(x, 0, name, values[name]);
-        }
-        x.run();
-        return Lists.printed(x, 0);
-    }
-
     /** "Then, if there are PIECES, a blank, and all pieces, ". " between them, and a point." */
     private static void pieces() {
-        CHECK.same("no piece", text(1), "[1]");
-        CHECK.same("persons alone", text(1, "A"), "[1] A.");
-        CHECK.same("the title alone", text(1, "", "T"), "[1] T.");
-        CHECK.same("the third alone", text(1, "", "", "", "", "P"), "[1] P.");
-        CHECK.same("the year alone", text(1, "", "", "Y"), "[1] Y.");
-        CHECK.same("the first and the last", text(1, "A", "", "Y"), "[1] A. Y.");
-        CHECK.same("all four", text(1, "A", "T", "Y", "", "P"), "[1] A. T. P. Y.");
-        CHECK.same("no persons in the author", text(1, " and ", "T"), "[1] T.");
-        CHECK.same("other fields are no pieces", text(1, "", "", "", "J", "", "1", "B", "N"), "[1]");
+        CHECK.same("no piece", Lists.textOf(1), "[1]");
+        CHECK.same("persons alone", Lists.textOf(1, "A"), "[1] A.");
+        CHECK.same("the title alone", Lists.textOf(1, "", "T"), "[1] T.");
+        CHECK.same("the third alone", Lists.textOf(1, "", "", "", "", "P"), "[1] P.");
+        CHECK.same("the year alone", Lists.textOf(1, "", "", "Y"), "[1] Y.");
+        CHECK.same("the first and the last", Lists.textOf(1, "A", "", "Y"), "[1] A. Y.");
+        CHECK.same("all four", Lists.textOf(1, "A", "T", "Y", "", "P"), "[1] A. T. P. Y.");
+        CHECK.same("no persons in the author", Lists.textOf(1, " and ", "T"), "[1] T.");
+        CHECK.same("a blank is not empty", Lists.textOf(4, " ", " "), "[1]  .");
+        CHECK.same("a point of its own", Lists.textOf(4, "", "T.", "Y"), "[1] T.. Y.");
+        CHECK.same("other fields are no pieces", Lists.textOf(1, "", "", "", "J", "", "1", "B", "N"), "[1]");
         String most = "x".repeat(80);
-        CHECK.same("the longest pieces", text(1, most, most), "[1] " + most + ". " + most + ".");
+        CHECK.same("the longest pieces", Lists.textOf(1, most, most), "[1] " + most + ". " + most + ".");
     }
 
     /** "3 of kind 0: JOURNAL, and, if both are there, ", " and PAGES; .. of 2: "In: " and BOOKTITLE, if that is there, ..". */
     private static void sources() {
-        CHECK.same("0: neither", text(0, "", "", "", "", "P", "", "B", "N"), "[1]");
-        CHECK.same("0: a journal", text(0, "", "", "", "J", "P", "", "B", "N"), "[1] J.");
-        CHECK.same("0: pages", text(0, "", "", "", "", "P", "1", "B", "N"), "[1]");
-        CHECK.same("0: both", text(0, "", "", "", "J", "P", "1", "B", "N"), "[1] J, 1.");
-        CHECK.same("1: a publisher", text(1, "", "", "", "J", "P", "1", "B", "N"), "[1] P.");
-        CHECK.same("1: none", text(1, "", "", "", "J", "", "1", "B", "N"), "[1]");
-        CHECK.same("2: neither", text(2, "", "", "", "J", "P", "", "", "N"), "[1]");
-        CHECK.same("2: a booktitle", text(2, "", "", "", "J", "P", "", "B", "N"), "[1] In: B.");
-        CHECK.same("2: pages", text(2, "", "", "", "J", "P", "1", "", "N"), "[1]");
-        CHECK.same("2: both", text(2, "", "", "", "J", "P", "1", "B", "N"), "[1] In: B, pp. 1.");
-        CHECK.same("3: a publisher", text(3, "", "", "", "J", "P", "1", "B", "N"), "[1] P.");
-        CHECK.same("3: none", text(3, "", "", "", "J", "", "1", "B", "N"), "[1]");
-        CHECK.same("4: a note", text(4, "", "", "", "J", "P", "1", "B", "N"), "[1] N.");
-        CHECK.same("4: none", text(4, "", "", "", "J", "P", "1", "B", ""), "[1]");
+        CHECK.same("0: neither", Lists.textOf(0, "", "", "", "", "P", "", "B", "N"), "[1]");
+        CHECK.same("0: a journal", Lists.textOf(0, "", "", "", "J", "P", "", "B", "N"), "[1] J.");
+        CHECK.same("0: pages", Lists.textOf(0, "", "", "", "", "P", "1", "B", "N"), "[1]");
+        CHECK.same("0: both", Lists.textOf(0, "", "", "", "J", "P", "1", "B", "N"), "[1] J, 1.");
+        CHECK.same("1: a publisher", Lists.textOf(1, "", "", "", "J", "P", "1", "B", "N"), "[1] P.");
+        CHECK.same("1: none", Lists.textOf(1, "", "", "", "J", "", "1", "B", "N"), "[1]");
+        CHECK.same("2: neither", Lists.textOf(2, "", "", "", "J", "P", "", "", "N"), "[1]");
+        CHECK.same("2: a booktitle", Lists.textOf(2, "", "", "", "J", "P", "", "B", "N"), "[1] In: B.");
+        CHECK.same("2: pages", Lists.textOf(2, "", "", "", "J", "P", "1", "", "N"), "[1]");
+        CHECK.same("2: both", Lists.textOf(2, "", "", "", "J", "P", "1", "B", "N"), "[1] In: B, pp. 1.");
+        CHECK.same("3: a publisher", Lists.textOf(3, "", "", "", "J", "P", "1", "B", "N"), "[1] P.");
+        CHECK.same("3: none", Lists.textOf(3, "", "", "", "J", "", "1", "B", "N"), "[1]");
+        CHECK.same("4: a note", Lists.textOf(4, "", "", "", "J", "P", "1", "B", "N"), "[1] N.");
+        CHECK.same("4: none", Lists.textOf(4, "", "", "", "J", "P", "1", "B", ""), "[1]");
     }
 
     /** "each name, and if there are given words ", " and the initials; .. of more than three only the first one". */
     private static void personsPiece() {
-        CHECK.same("one", text(1, "A b C"), "[1] b C, A..");
-        CHECK.same("one without given words", text(1, "b C"), "[1] b C.");
-        CHECK.same("two", text(1, "X A and B"), "[1] A, X. and B.");
-        CHECK.same("three", text(1, "X A and B and Y Z C"), "[1] A, X., B and C, Y. Z..");
-        CHECK.same("four", text(1, "X A and B and C and D"), "[1] A, X. et al..");
-        CHECK.same("five", text(1, "A and B and C and D and E"), "[1] A et al..");
-        CHECK.same("three and one that is none", text(1, "A and B and , and C"), "[1] A, B and C.");
-        CHECK.same("no family", text(1, ",A"), "[1] , A..");
+        CHECK.same("one", Lists.textOf(1, "A b C"), "[1] b C, A..");
+        CHECK.same("one without given words", Lists.textOf(1, "b C"), "[1] b C.");
+        CHECK.same("two", Lists.textOf(1, "X A and B"), "[1] A, X. and B.");
+        CHECK.same("three", Lists.textOf(1, "X A and B and Y Z C"), "[1] A, X., B and C, Y. Z..");
+        CHECK.same("four", Lists.textOf(1, "X A and B and C and D"), "[1] A, X. et al..");
+        CHECK.same("five", Lists.textOf(1, "A and B and C and D and E"), "[1] A et al..");
+        CHECK.same("three and one that is none", Lists.textOf(1, "A and B and , and C"), "[1] A, B and C.");
+        CHECK.same("no family", Lists.textOf(1, ",A"), "[1] , A..");
     }
 
     /** "THE HEAD is "References (" and how many rows, and ")"". */

@@ -52,7 +52,7 @@ final class Lists {
         try {
             return String.valueOf(call.getAsInt());
         } catch (RuntimeException e) {
-            return "throws." + e.getClass().getSimpleName();
+            return "throws." + Check.nameOf(e);
         }
     }
 
@@ -120,5 +120,31 @@ final class Lists {
         String text = printed(x, i);
         int end = text.indexOf(text.charAt(0) == '(' ? ')' : ']');
         return text.substring(1, end);
+    }
+
+    /** The text of the only row, of an entry with these values of its fields from 0 on. */
+    static String textOf(int kind, String... values) {
+        CiteLists x = new CiteLists();
+        x.cite(x.entry(kind));
+        for (int name = 0; name < values.length; name++) {
+            field(x, 0, name, values[name]);
+        }
+        x.run();
+        return printed(x, 0);
+    }
+
+    /** What stands in the brackets of each row, of entries with these authors. */
+    static String labelsOf(int label, String... authors) {
+        CiteLists x = new CiteLists();
+        for (String author : authors) {
+            cited(x, 4, author, "", "");
+        }
+        x.style(0, label);
+        int count = x.run();
+        StringBuilder text = new StringBuilder();
+        for (int i = 0; i < count; i++) {
+            text.append(i == 0 ? "" : "|").append(label(x, i));
+        }
+        return text.toString();
     }
 }

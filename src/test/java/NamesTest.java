@@ -16,6 +16,9 @@ public final class NamesTest {
         withoutAComma();
         noFamily();
         initials();
+        printedWithoutComma();
+        printedWithComma();
+        printedPersons();
         orderByPersons();
         fewerFirst();
         CHECK.end();
@@ -54,20 +57,12 @@ public final class NamesTest {
 
     /** The family of a single person, up to three characters: a short label without a year. */
     private static String family(String author) {
-        CiteLists x = new CiteLists();
-        Lists.cited(x, 4, author, "", "");
-        x.style(0, 1);
-        x.run();
-        return Lists.label(x, 0);
+        return Lists.labelsOf(1, author);
     }
 
     /** The name of a single person: a long label without a year. */
     private static String name(String author) {
-        CiteLists x = new CiteLists();
-        Lists.cited(x, 4, author, "", "");
-        x.style(0, 2);
-        x.run();
-        return Lists.label(x, 0);
+        return Lists.labelsOf(2, author);
     }
 
     /** "the value of AUTHOR is parted into WORDS by blanks". */
@@ -171,6 +166,55 @@ public final class NamesTest {
         CHECK.same("with their own points", persons("A.B. C. D"), "A. C.");
         CHECK.same("whatever they are", persons("1x .y (z A"), "1. .. (.");
         CHECK.same("neither folded nor made large", persons("A, b " + (char) 233), "b. " + (char) 233 + ".");
+    }
+
+    /** The names and initials of an author, as a row prints up to three of them. */
+    private static String printed(String author) {
+        String text = Lists.textOf(4, author);
+        return text.length() == 3 ? "" : text.substring(4, text.length() - 1);
+    }
+
+    private static void printedWithoutComma() {
+        CHECK.same("one word", printed("Plato"), "Plato");
+        CHECK.same("one small word", printed("plato"), "plato");
+        CHECK.same("given and family", printed("Donald  E.  Knuth "), "Knuth, D. E.");
+        CHECK.same("a particle", printed("Ludwig van Beethoven"), "van Beethoven, L.");
+        CHECK.same("particles with one between", printed("Jean de La fontaine Du Lac"),
+            "de La fontaine Du Lac, J.");
+        CHECK.same("no given word", printed("von der Heide"), "von der Heide");
+        CHECK.same("a small last word is family", printed("Charles bell hooks"), "bell hooks, C.");
+        CHECK.same("only the last is small", printed("Anna hooks"), "hooks, A.");
+        CHECK.same("223 is small", printed("A " + (char) 223 + "a B"), (char) 223 + "a B, A.");
+        CHECK.same("255 is small", printed("A " + (char) 255 + " B"), (char) 255 + " B, A.");
+        CHECK.same("222 is not small", printed("A " + (char) 222 + "a B"), "B, A. " + (char) 222 + ".");
+        CHECK.same("a digit is not small", printed("A 1a B"), "B, A. 1.");
+        CHECK.same("a is small", printed("B a C"), "a C, B.");
+        CHECK.same("z is small", printed("B z C"), "z C, B.");
+        CHECK.same("40 words", printed("X ".repeat(40)), "X," + " X.".repeat(39));
+    }
+
+    private static void printedWithComma() {
+        CHECK.same("particles", printed("van der Berg, Jan"), "van der Berg, J.");
+        CHECK.same("the last one before is family", printed("van der, Jan"), "van der, J.");
+        CHECK.same("particles only from the beginning", printed("Berg van, Jan"), "Berg van, J.");
+        CHECK.same("small given words", printed("Berg, jan van"), "Berg, j. v.");
+        CHECK.same("commas part words", printed("Berg,Jan,Jr"), "Berg, J. J.");
+        CHECK.same("nothing behind it", printed("Berg Tal,"), "Berg Tal");
+        CHECK.same("nothing before it", printed(", Jan"), ", J.");
+        CHECK.same("only commas", printed(",, ,"), "");
+        CHECK.same("40 words", printed("X,".repeat(40)), "X," + " X.".repeat(39));
+    }
+
+    private static void printedPersons() {
+        CHECK.same("two", printed("A B and C D"), "B, A. and D, C.");
+        CHECK.same("three", printed("A and B and C"), "A, B and C");
+        CHECK.same("four", printed("X A and B and C and D"), "A, X. et al.");
+        CHECK.same("as many as 80 characters hold", printed("A" + " and B".repeat(13)), "A et al.");
+        CHECK.same("those without words", printed("and A and  and , and B and"), "A and B");
+        CHECK.same("only a word that is just and", printed("Anders andand And"), "andand And, A.");
+        CHECK.same("and with a comma", printed("A, and, B"), "A, a. B.");
+        CHECK.same("none", printed("and and"), "");
+        CHECK.same("blanks", printed("    "), "");
     }
 
     private static String rows(String... authors) {

@@ -20,6 +20,7 @@ public final class RunsTest {
         missing();
         missingByKind();
         whatARunTellsStays();
+        nothingOfEarlierRuns();
         CHECK.end();
     }
 
@@ -284,5 +285,26 @@ public final class RunsTest {
         CHECK.same("8: the head stays", Lists.printed(x, -1), "References (2)");
         CHECK.same("8: the next run", Lists.rows(x), "2 0");
         CHECK.same("8: its text", Lists.printed(x, 1), "(Bc 1c) Bc. bc. c. 1c.");
+    }
+
+    /** The rows of the first run change places, so that the second one uses each for another entry. */
+    private static void nothingOfEarlierRuns() {
+        CiteLists x = new CiteLists();
+        Lists.cited(x, 4, "", "bzz", "");
+        Lists.cited(x, 4, "", "a", "");
+        x.style(1, 0);
+        CHECK.same("8: titles, the first run", Lists.rows(x), "1 0");
+        Lists.cited(x, 4, "", "ab", "");
+        CHECK.same("8: titles, the second run", Lists.rows(x), "1 2 0");
+        CiteLists y = new CiteLists();
+        Lists.cited(y, 4, "X and Y", "", "");
+        Lists.cited(y, 4, "A B", "", "");
+        y.style(1, 1);
+        CHECK.same("8: persons, the first run", Lists.rows(y), "1 0");
+        CHECK.same("8: persons, its text", Lists.printed(y, 0), "[B] B, A..");
+        Lists.cited(y, 4, "A B and A", "", "");
+        CHECK.same("8: persons, the second run", Lists.rows(y), "1 2 0");
+        CHECK.same("8: persons, its texts", Lists.printed(y, 0) + Lists.printed(y, 1) + Lists.printed(y, 2),
+            "[B] B, A..[BA] B, A. and A.[XY] X and Y.");
     }
 }

@@ -3,6 +3,11 @@ public final class TermsTest {
     private static final Check CHECK = new Check();
     private static final String[] ALL = {"A", "T", "Y", "J", "P", "1", "B", "N"};
 
+    /** The texts of an entry of each kind that is crossed to one with all of these. */
+    private static final String[] INHERITED = {
+        "[1] A. J, 1. Y.", "[1] A. P. Y.", "[1] A. In: T, pp. 1. Y.", "[1] A. P. Y.", "[1] A. N. Y."
+    };
+
     private TermsTest() {
     }
 
@@ -19,30 +24,21 @@ public final class TermsTest {
         ownValues();
         valuesOfOthers();
         valuesOverMany();
+        nearestValues();
         booktitles();
         realOnes();
         CHECK.end();
     }
 
-    private static String printedOf(int kind, String... values) {
-        CiteLists x = new CiteLists();
-        x.cite(x.entry(kind));
-        for (int name = 0; name < values.length; name++) {
-            Lists.field(x, 0, name, values[name]);
-        }
-        x.run();
-        return Lists.printed(x, 0);
-    }
-
     /** "0 article, 1 book, 2 paper, 3 collection; all others count as 4". */
     private static void kinds() {
-        CHECK.same("kind 0", printedOf(0, ALL), "[1] A. T. J, 1. Y.");
-        CHECK.same("kind 1", printedOf(1, ALL), "[1] A. T. P. Y.");
-        CHECK.same("kind 2", printedOf(2, ALL), "[1] A. T. In: B, pp. 1. Y.");
-        CHECK.same("kind 3", printedOf(3, ALL), "[1] A. T. P. Y.");
+        CHECK.same("kind 0", Lists.textOf(0, ALL), "[1] A. T. J, 1. Y.");
+        CHECK.same("kind 1", Lists.textOf(1, ALL), "[1] A. T. P. Y.");
+        CHECK.same("kind 2", Lists.textOf(2, ALL), "[1] A. T. In: B, pp. 1. Y.");
+        CHECK.same("kind 3", Lists.textOf(3, ALL), "[1] A. T. P. Y.");
         int[] others = {4, 5, 6, 8, 16, 256, Integer.MAX_VALUE, -1, -2, -4, Integer.MIN_VALUE};
         for (int kind : others) {
-            CHECK.same("kind " + kind, printedOf(kind, ALL), "[1] A. T. N. Y.");
+            CHECK.same("kind " + kind, Lists.textOf(kind, ALL), "[1] A. T. N. Y.");
         }
     }
 
@@ -129,7 +125,7 @@ public final class TermsTest {
         for (int sign = 0; sign < 256; sign++) {
             if (beginsWords(sign)) {
                 String word = (char) sign + "Q";
-                CHECK.same("small " + sign, printedOf(4, "A " + word + " B"),
+                CHECK.same("small " + sign, Lists.textOf(4, "A " + word + " B"),
                     isSmall(sign) ? "[1] " + word + " B, A.." : "[1] B, A. " + (char) sign + "..");
             }
         }
@@ -260,37 +256,36 @@ public final class TermsTest {
             "throws.IndexOutOfBoundsException");
     }
 
+    /** Entry 0 has no value of its own, entry 1 all; 0 is cited. */
+    private static CiteLists emptyAndFull(int kind) {
+        CiteLists x = new CiteLists();
+        x.cite(x.entry(kind));
+        x.entry(kind);
+        for (int name = 0; name < 8; name++) {
+            Lists.field(x, 1, name, ALL[name]);
+        }
+        return x;
+    }
+
     /** "if that is empty, and it is crossed: .. of TITLE nothing; of others the other's value". */
     private static void valuesOfOthers() {
-        String[] due = {"[1] A. J, 1. Y.", "[1] A. P. Y.", "[1] A. In: T, pp. 1. Y.", "[1] A. P. Y.", "[1] A. N. Y."};
         for (int kind = 0; kind < 5; kind++) {
-            CiteLists x = new CiteLists();
-            x.cite(x.entry(kind));
-            x.entry(kind);
-            for (int name = 0; name < 8; name++) {
-                Lists.field(x, 1, name, ALL[name]);
-            }
+            CiteLists x = emptyAndFull(kind);
             x.run();
             CHECK.same("not crossed, kind " + kind, Lists.printed(x, 0), "[1]");
             x.cross(1, 0);
             x.run();
             CHECK.same("crossed the other way, kind " + kind, Lists.printed(x, 0), "[1]");
-            CiteLists y = new CiteLists();
-            y.cite(y.entry(kind));
-            y.entry(kind);
-            for (int name = 0; name < 8; name++) {
-                Lists.field(y, 1, name, ALL[name]);
-            }
+            CiteLists y = emptyAndFull(kind);
             y.cross(0, 1);
             y.run();
-            CHECK.same("crossed, kind " + kind, Lists.printed(y, 0), due[kind]);
+            CHECK.same("crossed, kind " + kind, Lists.printed(y, 0), INHERITED[kind]);
             CHECK.same("only the title is missing, kind " + kind, Lists.missing(y), "0:1");
         }
     }
 
     /** The longest chain that 24 entries make: each field's value comes from its far end, but the title's. */
     private static void valuesOverMany() {
-        String[] due = {"[1] A. J, 1. Y.", "[1] A. P. Y.", "[1] A. In: T, pp. 1. Y.", "[1] A. P. Y.", "[1] A. N. Y."};
         for (int kind = 0; kind < 5; kind++) {
             CiteLists x = new CiteLists();
             for (int i = 0; i < 24; i++) {
@@ -304,8 +299,27 @@ public final class TermsTest {
             }
             x.cite(23);
             x.run();
-            CHECK.same("over 23 crossings, kind " + kind, Lists.printed(x, 0), due[kind]);
+            CHECK.same("over 23 crossings, kind " + kind, Lists.printed(x, 0), INHERITED[kind]);
         }
+    }
+
+    /** Of several that have a value it is the nearest one's. */
+    private static void nearestValues() {
+        CiteLists x = new CiteLists();
+        for (int i = 0; i < 4; i++) {
+            x.entry(0);
+        }
+        for (int i = 0; i < 3; i++) {
+            x.cross(i, i + 1);
+        }
+        Lists.field(x, 1, Lists.YEAR, "Y1");
+        Lists.field(x, 2, Lists.YEAR, "Y2");
+        Lists.field(x, 2, Lists.AUTHOR, "A2");
+        Lists.field(x, 3, Lists.AUTHOR, "A3");
+        Lists.field(x, 3, Lists.JOURNAL, "J3");
+        x.cite(0);
+        x.run();
+        CHECK.same("the nearest values", Lists.printed(x, 0), "[1] A2. J3. Y1.");
     }
 
     /** Entry 0 is crossed to 1, and 1 to 2; which title or booktitle the paper 0 stands in. */
