@@ -306,5 +306,13 @@ public final class RunsTest {
         CHECK.same("8: persons, the second run", Lists.rows(y), "1 2 0");
         CHECK.same("8: persons, its texts", Lists.printed(y, 0) + Lists.printed(y, 1) + Lists.printed(y, 2),
             "[B] B, A..[BA] B, A. and A.[XY] X and Y.");
+        CiteLists z = new CiteLists();
+        Lists.cited(z, 4, "X and Y and Z", "", "");
+        Lists.cited(z, 4, "A B and C", "", "");
+        z.style(1, 1);
+        z.run();
+        CHECK.same("8: a base, the first run", Lists.label(z, 0), "BC");
+        z.run();
+        CHECK.same("8: a base, the second run", Lists.label(z, 0), "BC");
     }
 }
