@@ -16,6 +16,7 @@ public final class LabelsTest {
         initialsBefore();
         initialsInTheNextRun();
         initialsNotInLabels();
+        basesByValues();
         letters();
         lettersOfManyBases();
         label();
@@ -182,6 +183,37 @@ public final class LabelsTest {
         x.style(0, 2);
         x.run();
         CHECK.same("only rows count", Lists.label(x, 0), "X");
+    }
+
+    /** Persons and YEAR of a base are values: entry 0 has them from 1, over 2; the key is its own. */
+    private static void basesByValues() {
+        CiteLists x = new CiteLists();
+        for (int i = 0; i < 4; i++) {
+            x.entry(4);
+            Lists.key(x, i, "key" + i);
+        }
+        x.cross(0, 2);
+        x.cross(2, 1);
+        Lists.field(x, 1, Lists.YEAR, "1987");
+        x.cite(0);
+        x.style(0, 1);
+        x.run();
+        CHECK.same("label 1, another's year", Lists.label(x, 0), "key87");
+        x.style(0, 2);
+        x.run();
+        CHECK.same("label 2, another's year", Lists.label(x, 0), "key0 1987");
+        Lists.field(x, 1, Lists.AUTHOR, "A Xyz");
+        Lists.field(x, 3, Lists.AUTHOR, "B Xyz");
+        x.cite(3);
+        x.run();
+        CHECK.same("label 2, another's person", Lists.label(x, 0), "A. Xyz 1987");
+        CHECK.same("label 2, its own", Lists.label(x, 1), "B. Xyz");
+        x.style(0, 1);
+        x.run();
+        CHECK.same("label 1, another's person", Lists.label(x, 0), "Xyz87");
+        Lists.field(x, 2, Lists.YEAR, "6");
+        x.run();
+        CHECK.same("label 1, the nearest year", Lists.label(x, 0), "Xyz6");
     }
 
     /** "rows that have the same base (not empty) get 1, 2, .. in their order; others 0". */

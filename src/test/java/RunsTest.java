@@ -21,6 +21,8 @@ public final class RunsTest {
         missingByKind();
         whatARunTellsStays();
         nothingOfEarlierRuns();
+        printedStaysOverARun();
+        notItsRealOne();
         CHECK.end();
     }
 
@@ -314,5 +316,50 @@ public final class RunsTest {
         CHECK.same("8: a base, the first run", Lists.label(z, 0), "BC");
         z.run();
         CHECK.same("8: a base, the second run", Lists.label(z, 0), "BC");
+    }
+
+    /** Promises 13 and 14: a run changes the rows, but not what was printed last. */
+    private static void printedStaysOverARun() {
+        CiteLists x = new CiteLists();
+        x.cite(x.entry(4));
+        Lists.field(x, 0, Lists.NOTE, "abc");
+        x.run();
+        int length = x.print(0);
+        Lists.field(x, 0, Lists.NOTE, "defg");
+        Lists.cited(x, 4, "A", "", "");
+        x.style(1, 2);
+        x.run();
+        CHECK.same("14: a row's text over a run", Lists.told(x, length), "[1] abc.");
+        CHECK.thrown("14: not longer", IndexOutOfBoundsException.class, () -> x.at(length));
+        int wide = x.print(-1);
+        x.cite(x.entry(4));
+        x.run();
+        CHECK.same("14: the head over a run", Lists.told(x, wide), "References (2)");
+        CHECK.same("13: printed again", Lists.printed(x, -1), "References (3)");
+        CHECK.same("13: the row's text now", Lists.printed(x, 0), "() abcdefg.");
+    }
+
+    /** Promises 4, 6 and 11: only a run goes over to the real one; other calls mean the entry itself. */
+    private static void notItsRealOne() {
+        CiteLists x = new CiteLists();
+        for (int i = 0; i < 3; i++) {
+            x.entry(4);
+        }
+        Lists.key(x, 0, "k");
+        Lists.key(x, 1, "k");
+        Lists.field(x, 0, Lists.AUTHOR, "Q X");
+        Lists.field(x, 1, Lists.AUTHOR, "P Y");
+        Lists.field(x, 1, Lists.NOTE, "n");
+        x.cite(1);
+        x.cite(2);
+        CHECK.same("6: to one that is not its real one", x.cross(2, 1), 1);
+        x.run();
+        CHECK.same("4: not the real one's fields", Lists.printed(x, 0), "[1] X, Q..");
+        CHECK.same("6: not the real one's values", Lists.printed(x, 1), "[2] Y, P.. n.");
+        CHECK.same("11: not the real one's initials", Lists.initials(x, 1, 0), "P.");
+        CHECK.same("6: the real one is not in the ring", x.cross(0, 2), 1);
+        CHECK.same("6: the other one is", x.cross(1, 0), 0);
+        Lists.key(x, 1, "l");
+        CHECK.same("3: its own key grows", x.twice(-1), 0);
     }
 }
